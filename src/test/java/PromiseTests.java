@@ -163,6 +163,12 @@ public final class PromiseTests {
         fault("Clerk 4 0 0 5;", 0);
         fault("clerks 4 0 0 5;", 0);
         fault("cler", 0);
+        fault("klerk 4 0 0 5;", 0);
+        fault("clerka 4 0 0 5;", 0);
+        fault("zclerk 4 0 0 5;", 0);
+        fault("clerkz 4 0 0 5;", 0);
+        fault("better 4 0;", 0);
+        fault("letten 4 0;", 0);
         fault("clerkletter", 0);
         fault("clerk", 5);
         fault("clerk  ", 7);
@@ -186,6 +192,7 @@ public final class PromiseTests {
         fault("clerk 04 0 0 5;", 6);
         fault("clerk 4 00 0 5;", 8);
         fault("clerk 4 0 0 010;", 12);
+        fault("clerk 4 0 0 09;", 12);
         fault("clerk 4 0 0 100;", 12);
         fault("clerk 99 0 0 5;", 6);
         fault("clerk 4294967300 0 0 5;", 6);
@@ -254,6 +261,18 @@ public final class PromiseTests {
         due("back(1)", x.back(1), STATE);
         due("lot(0)", x.lot(0), lot);
         due("trace()", x.trace(), 1);
+        NineHands again = new NineHands();
+        for (int k = 0; k < 4; k++) {
+            Check.typed(again, "letter 3 6;clerk 4 0 0 5;");
+            due("chancery() once more", again.chancery(), 2);
+            due("count(0)", again.count(0), 1);
+            due("line(0, 1)", again.line(0, 1), 6);
+        }
+        for (int k = 0; k < 2; k++) {
+            due("chancery() of no text", again.chancery(), 0);
+            due("line(0, 0)", again.line(0, 0), 5);
+            due("line(0, 1)", again.line(0, 1), 0);
+        }
     }
 
     private static void clerk() {
@@ -429,6 +448,9 @@ public final class PromiseTests {
         warm.forge(0, 0);
         warm.forge(9, 0);
         due("turned()", warm.turned(), 3);
+        NineHands soon = told("letter 5 0;");
+        soon.forge(4, 0);
+        due("turned() at once", soon.turned(), 1);
         NineHands hot = told("letter 9 0;");
         hot.forge(5, 0);
         due("turned() nearer, yet warm", hot.turned(), NONE);
@@ -487,6 +509,19 @@ public final class PromiseTests {
         z.forge(6, 0);
         due("who(1, 0)", z.who(1, 0), 2);
         due("who(2, 0)", z.who(2, 0), 1);
+        // One way of ten is a way.
+        NineHands one = told("clerk 5 0 0 1;clerk 3 0 0 9;");
+        one.forge(6, 0);
+        due("who(1, 0)", one.who(1, 0), 1);
+        due("who(1, 1)", one.who(1, 1), 0);
+        due("rows()", one.rows(), 1);
+        due("odds(0, 1, 1)", one.odds(0, 1, 1), 1);
+        due("odds(1, 1, 0)", one.odds(1, 1, 0), 0);
+        one.forge(6, 0);
+        due("who(2, 1)", one.who(2, 1), 0);
+        due("odds(0, 2, 0)", one.odds(0, 2, 0), 9);
+        due("odds(1, 2, 0)", one.odds(1, 2, 0), 1);
+        due("odds(1, 2, 1)", one.odds(1, 2, 1), 10);
         NineHands nobody = new NineHands();
         nobody.forge(5, 0);
         due("who(1, 0) of nobody", nobody.who(1, 0), 0);
@@ -680,6 +715,14 @@ public final class PromiseTests {
         learntAll(x, 6, 8, 0, 0, 7, 0);
         x.sign(6, 0, 9, 7);
         learntAll(x, 7, 8, 7, 0, 7, 0);
+        x.forget();
+        x.sign(0, 0, 4, 0);
+        learntAll(x, 8, 8, 0, 0, 0, 7);
+        x.forget();
+        x.sign(9, 0, 5, 0);
+        learntAll(x, 0, 0, 0, 0, 0, 7);
+        x.sign(3, 7, 0, 7);
+        learntAll(x, 0, 0, 0, 0, 0, 0);
         // The letter and its clerks are another thing.
         NineHands y = told(SURE);
         y.write(0);
