@@ -33,6 +33,10 @@ final class Check {
         return wrong;
     }
 
+    int asked() {
+        return asked;
+    }
+
     void finish() {
         System.out.println(name + ": " + asked + " answers asked, " + wrong + " not as due");
         if (wrong != 0 || asked == 0) {
