@@ -225,14 +225,14 @@ public final class NineHands {
         if (what < 0 || what > 5) {
             return BAD;
         }
-        if (samples.leastLean() == NONE || !samples.marksFit()) {
+        if (!samples.fitOneHabit()) {
             return NONE;
         }
         switch (what) {
             case 0: return samples.leastLean();
             case 1: return samples.greatestLean();
-            case 2: return samples.maySet() & ~samples.mayDrop() & ~samples.mayLeave();
-            case 3: return samples.mayDrop() & ~samples.maySet() & ~samples.mayLeave();
+            case 2: return samples.mustSet();
+            case 3: return samples.mustDrop();
             case 4: return samples.maySet();
             default: return samples.mayDrop();
         }
@@ -845,8 +845,16 @@ public final class NineHands {
             return true;
         }
 
-        boolean marksFit() {
-            return (maySet() | mayDrop() | mayLeave()) == ALL_MARKS;
+        boolean fitOneHabit() {
+            return leastLean() != NONE && (maySet() | mayDrop() | mayLeave()) == ALL_MARKS;
+        }
+
+        int mustSet() {
+            return maySet() & ~mayDrop() & ~mayLeave();
+        }
+
+        int mustDrop() {
+            return mayDrop() & ~maySet() & ~mayLeave();
         }
 
         int maySet() {
@@ -865,7 +873,7 @@ public final class NineHands {
             return may;
         }
 
-        int mayLeave() {
+        private int mayLeave() {
             int may = ALL_MARKS;
             for (int k = 0; k < count; k++) {
                 may &= ~(marks[k] ^ thenMarks[k]);
